@@ -828,18 +828,13 @@ public final class MilkDesk {
             return school >= 0 && school < count;
         }
 
-        /** The caller has seen that there is room. A place may have been another SCHOOL's ahead of a RESTORE. */
+        /** The caller has seen that there is room. A RESTORE takes back whole rows, so that all behind count is 0. */
         int come(int itsShire, int told) {
             int s = count;
             shire[s] = itsShire;
             x[s] = told / 100;
             y[s] = told % 100;
-            leaves[s] = 0;
-            loses[s] = 0;
             latest[s] = FIRST_LATEST;
-            for (int what = 0; what < SUMS; what++) {
-                sums[s * SUMS + what] = 0;
-            }
             count++;
             return s;
         }

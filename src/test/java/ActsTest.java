@@ -324,6 +324,10 @@ public final class ActsTest {
         x.strike(1, 3);
         due.is("struck", x.quarrel(0, 0, 0, 3), 205);
         due.is("not yet struck", x.quarrel(0, 0, 0, 2), 105);
+        MilkDesk y = Due.withSchools(1);
+        Due.act(y, "o:c=0", -1, 0);
+        Due.act(y, "o:c=1", -1, 0);
+        due.is("the first one holds", y.quarrel(2, 0, 0, 0), 1);
     }
 
     private static void caseRefusals() {

@@ -126,6 +126,9 @@ public final class DaysTest {
         due.is("OWED where o holds", x.of(1, 9), 5);
         due.is("OWED where o doesn't", x.of(0, 9), 0);
         due.is("GONE all", x.count(6), 20);
+        x.set(1, 1, 2);
+        x.go(1);
+        due.is("a single one OWED", x.of(1, 9), 6);
     }
 
     private static void whatIsLeft() {
@@ -197,6 +200,10 @@ public final class DaysTest {
         x.bid(0, 0, -1);
         x.go(1);
         sums("none again", x, 0, 150, 50, 100, 25, 0, 25, 0, 25, 0, 0, 1);
+        heads(x, 1, 200);
+        x.go(5);
+        due.is("nothing is PAID for many UNMET without a DAIRY", x.of(0, 10), 1);
+        due.is("though they are", x.of(0, 2), 100 + 50 + 50 + 250);
     }
 
     private static void paid() {
@@ -267,6 +274,7 @@ public final class DaysTest {
         due.is("of another shire", x.byHowMuch(2, 0), 20);
         due.is("of another shire, the least", x.byHowMuch(2, 1), 20);
         due.is("none of its own", x.byHowMuch(1, 2), -1000000004);
+        due.is("none in the last shire", x.byHowMuch(3, 0), -1000000004);
         due.each("byHowMuch(n, 0)", -1000000001, n -> x.byHowMuch(n, 0), -1, 4);
         due.each("byHowMuch(0, n)", -1000000001, n -> x.byHowMuch(0, n), -1, 3);
         due.is("of no shire, without LOOKS", x.byHowMuch(4, 0), -1000000001);

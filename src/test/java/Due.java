@@ -16,6 +16,10 @@ final class Due {
         }
     }
 
+    int wrong() {
+        return wrong;
+    }
+
     void holds(String what, boolean so) {
         is(what, so ? 1 : 0, 1);
     }

@@ -6,6 +6,7 @@ public final class HeadsTest {
         fromWhichDay();
         held();
         missing();
+        missingBehindAnotherAge();
         asKnown();
         schoolsThatComeLater();
         refusals();
@@ -86,11 +87,22 @@ public final class HeadsTest {
         Due.fill(y, 0, 0, -128);
         y.heads(2, 0);
         due.is("without one ahead", y.head(0, 2, 7, 0), 0);
+        Due.bytes(y, 0, 33);
+        y.heads(0, 0);
         Due.bytes(y, 0, 50);
         y.heads(1, 0);
         Due.fill(y, 0, 2, -32768);
         y.heads(1, 0);
         due.is("-32768 is no int's least", y.head(0, 1, 7, 0), 0);
+    }
+
+    private static void missingBehindAnotherAge() {
+        MilkDesk x = Due.withSchools(1);
+        Due.bytes(x, 0, 50);
+        x.heads(0, 0);
+        x.row(0, 0, 0);
+        x.heads(1, 0);
+        due.is("the row ahead is another age's", x.head(0, 1, 7, 0), 0);
     }
 
     private static void asKnown() {

@@ -146,6 +146,18 @@ public final class RoundsAndPlansTest {
         due.is("one of them twice", x.judge(0, 0, 0), 12);
         Due.bytes(x, 0, 11, 10);
         due.is("not in the order of the round", x.judge(0, 0, 0), -4);
+        MilkDesk y = new MilkDesk();
+        y.school(0, 3045);
+        y.school(0, 2080);
+        y.dairy(9911, 0, 1);
+        Due.bytes(y, 0, 0, 1);
+        y.set(0, 2, 103);
+        y.set(1, 2, 148);
+        due.is("both x and y", y.judge(0, 0, 0), -4);
+        due.is("a minute later", y.judge(0, 1, 0), 0);
+        y.set(0, 2, 104);
+        due.is("a minute later for the second", y.judge(0, 1, 0), 1);
+        due.is("the way of both x and y", y.round(0, 0, 0, -1), 103 + 45 + 148);
     }
 
     private static void judgeRefusals() {
@@ -197,6 +209,15 @@ public final class RoundsAndPlansTest {
         due.is("1000 for two days", y.bought(0, 2), 1000);
         y.set(0, 1, 99);
         due.is("less for three are too many, too", y.bought(0, 3), -4);
+        for (int bottles = 0; bottles < 2; bottles++) {
+            MilkDesk z = Due.withSchools(2);
+            Due.dairy(z, bottles, 9999, 100);
+            heads(z, 0, 200, 200);
+            heads(z, 1, 200, 200);
+            heads(z, 2, 101, 100);
+            z.go(7);
+            due.is("1001 without " + bottles, z.bought(0, 1), bottles == 0 ? -4 : 1000);
+        }
     }
 
     private static void boughtWithOthers() {
@@ -320,6 +341,16 @@ public final class RoundsAndPlansTest {
         due.is("nor the sums", x.of(0, 0), 0);
         x.go(3);
         due.is("the sums so far don't count", x.away(0, 1, 0), 10);
+        MilkDesk y = new MilkDesk();
+        y.school(0, 1020);
+        y.school(0, 2010);
+        Due.dairy(y, 9000, 9000, 100);
+        heads(y, 0, 40, 10);
+        y.go(7);
+        Due.act(y, "e:x=10", -1, 7);
+        due.is("acts by the x of the SCHOOL", y.away(0, 1, 0), 40);
+        Due.act(y, "e:y=10", -1, 7);
+        due.is("acts by the y of the SCHOOL", y.away(0, 1, 0), 10);
     }
 
     private static void awayBelowNothing() {
