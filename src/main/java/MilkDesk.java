@@ -626,6 +626,8 @@ public final class MilkDesk {
 
     /** All that THE IMAGE holds; plans are run through in a second one. */
     private static final class World {
+        private static final int AGE_FIELD = 0;
+
         int day;
         final Schools schools = new Schools();
         final Dairies dairies = new Dairies();
@@ -633,8 +635,6 @@ public final class MilkDesk {
         final ActBook acts = new ActBook();
         final Looks looks = new Looks();
         final int[] months = new int[MONTHS * MONTH_FACTS];
-        private static final int AGE_FIELD = 0;
-
         private final int[] fields = new int[ActReader.FIELDS.length()];
         private final int[] stack = new int[MOST_ELEMENTS];
         private int cowsLeft;
@@ -696,7 +696,7 @@ public final class MilkDesk {
                 return purpose == MAY_HAVE;
             }
             readFields(school, purpose == MAY_HAVE ? age : 0, onDay);
-            return acts.told[act].isMet(fields, stack);
+            return acts.meets(act, fields, stack);
         }
 
         /** The least ACT that could be in force and holds, or doesn't, as wanted; -1: none. */
@@ -704,7 +704,7 @@ public final class MilkDesk {
             readFields(school, purpose == MAY_HAVE ? age : 0, onDay);
             for (int act = 0; act < acts.count; act++) {
                 if (acts.couldBeInForce(act, purpose, schools.shire[school], onDay)
-                        && acts.told[act].isMet(fields, stack) == wanted) {
+                        && acts.meets(act, fields, stack) == wanted) {
                     return act;
                 }
             }
@@ -720,7 +720,7 @@ public final class MilkDesk {
             int sum = 0;
             for (int age = 0; age < AGES; age++) {
                 fields[AGE_FIELD] = age;
-                if (age != takenAge && (act < 0 || acts.told[act].isMet(fields, stack))) {
+                if (age != takenAge && (act < 0 || acts.meets(act, fields, stack))) {
                     sum += heads.counting(school, age, onDay, LAST_DAY);
                 }
             }
@@ -1027,8 +1027,13 @@ public final class MilkDesk {
             return count - 1;
         }
 
+        boolean meets(int act, int[] fields, int[] stack) {
+            Act it = has(act) ? told[act] : null;
+            return it != null && it.isMet(fields, stack);
+        }
+
         boolean couldBeInForce(int act, int purpose, int shire, int day) {
-            Act it = told[act];
+            Act it = has(act) ? told[act] : null;
             return it != null && it.purpose == purpose && (it.shire == ALL_SHIRES || it.shire == shire)
                     && it.from <= day && day < struck[act];
         }
@@ -1038,9 +1043,10 @@ public final class MilkDesk {
             int best = -1;
             int latest = 0;
             for (int act = 0; act < count; act++) {
-                if (couldBeInForce(act, purpose, shire, day) && told[act].from >= latest) {
+                Act it = told[act];
+                if (it != null && couldBeInForce(act, purpose, shire, day) && it.from >= latest) {
                     best = act;
-                    latest = told[act].from;
+                    latest = it.from;
                 }
             }
             return best;
