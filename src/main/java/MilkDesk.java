@@ -87,7 +87,7 @@ public final class MilkDesk {
         kept = new World();
         mind = new World();
         reader = new ActReader();
-        search = new RoundSearch(now);
+        search = new RoundSearch();
         shelves = new Shelf[SHELVES];
         for (int d = 0; d < SHELVES; d++) {
             shelves[d] = new Shelf();
@@ -319,10 +319,10 @@ public final class MilkDesk {
         if (refusal != 0) {
             return refusal;
         }
-        if (!search.takeStops(shelf)) {
+        if (!search.takeStops(shelf, now.schools)) {
             return NO_PLACE;
         }
-        if (!search.find(dairy, minute)) {
+        if (!search.find(now.dairies.x[dairy], now.dairies.y[dairy], minute)) {
             return NONE;
         }
         return i < 0 ? search.bestWay : search.bestStop(i);
@@ -1316,21 +1316,17 @@ public final class MilkDesk {
         private final int[] best = new int[MOST_STOPS];
         private final int[] trial = new int[MOST_STOPS];
         private final int[] stops = new int[MOST_STOPS];
+        private final int[] stopX = new int[MOST_STOPS];
+        private final int[] stopY = new int[MOST_STOPS];
+        private final int[] latest = new int[MOST_STOPS];
         private int count;
         private int used;
         private int minute;
         private int homeX;
         private int homeY;
-        private final Schools schools;
-        private final Dairies dairies;
-
-        RoundSearch(World world) {
-            schools = world.schools;
-            dairies = world.dairies;
-        }
 
         /** Takes them by their numbers, so that of several orders the first by numbers is met first. */
-        boolean takeStops(Shelf row) {
+        boolean takeStops(Shelf row, Schools schools) {
             count = 0;
             if (row.size < 1 || row.size > MOST_STOPS) {
                 return false;
@@ -1346,15 +1342,18 @@ public final class MilkDesk {
             for (int s = 0; s < schools.count && count < MOST_STOPS; s++) {
                 if ((told >> s & 1) == 1) {
                     stops[count] = s;
+                    stopX[count] = schools.x[s];
+                    stopY[count] = schools.y[s];
+                    latest[count] = schools.latest[s];
                     count++;
                 }
             }
             return true;
         }
 
-        boolean find(int dairy, int fromMinute) {
-            homeX = dairies.x[dairy];
-            homeY = dairies.y[dairy];
+        boolean find(int fromX, int fromY, int fromMinute) {
+            homeX = fromX;
+            homeY = fromY;
             minute = fromMinute;
             used = 0;
             bestWay = FARTHER_THAN_ANY;
@@ -1380,16 +1379,15 @@ public final class MilkDesk {
         }
 
         private void visit(int k, int depth, int x, int y, int way) {
-            int s = stops[k];
-            int reached = way + far(x, y, schools.x[s], schools.y[s]);
+            int reached = way + far(x, y, stopX[k], stopY[k]);
             // No way home is shorter than the straight one: what isn't shorter here won't be shorter at its end.
-            int atLeast = reached + far(schools.x[s], schools.y[s], homeX, homeY);
-            if (minute + reached > schools.latest[s] || atLeast >= bestWay) {
+            int atLeast = reached + far(stopX[k], stopY[k], homeX, homeY);
+            if (minute + reached > latest[k] || atLeast >= bestWay) {
                 return;
             }
-            trial[depth] = s;
+            trial[depth] = stops[k];
             used |= 1 << k;
-            goOn(depth + 1, schools.x[s], schools.y[s], reached);
+            goOn(depth + 1, stopX[k], stopY[k], reached);
             used &= ~(1 << k);
         }
     }

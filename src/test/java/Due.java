@@ -3,16 +3,33 @@ final class Due {
     private final String test;
     private int asked;
     private int wrong;
+    private String sentence = "";
+    private int askedAhead;
 
     Due(String test) {
         this.test = test;
+    }
+
+    /** What follows looks at this sentence of the document, told word for word (QuotesTest finds it there). */
+    void sentence(String quote) {
+        endSentence();
+        sentence = quote;
+        askedAhead = asked;
+    }
+
+    private void endSentence() {
+        if (!sentence.isEmpty() && asked == askedAhead) {
+            wrong++;
+            System.out.println(test + ": nothing was asked of \"" + sentence + "\"");
+        }
     }
 
     void is(String call, long got, long want) {
         asked++;
         if (got != want) {
             wrong++;
-            System.out.println(test + ": " + call + " answered " + got + ", due is " + want);
+            System.out.println(test + ": " + call + " answered " + got + ", due is " + want
+                    + (sentence.isEmpty() ? "" : ", by \"" + sentence + "\""));
         }
     }
 
@@ -35,7 +52,15 @@ final class Due {
         }
     }
 
+    /** Asks for the numbers beside a range, and for the farthest ones, that they are refused, and for its ends that they aren't. */
+    void range(String call, long refusal, int least, int most, Call c) {
+        each(call, refusal, c, least - 1, most + 1, Integer.MIN_VALUE, Integer.MAX_VALUE);
+        holds(call + " takes " + least, c.of(least) != refusal);
+        holds(call + " takes " + most, c.of(most) != refusal);
+    }
+
     void end() {
+        endSentence();
         System.out.println(test + ": " + asked + " answers, " + wrong + " not as due");
         if (wrong != 0 || asked == 0) {
             System.exit(1);
@@ -65,6 +90,18 @@ final class Due {
     static int act(MilkDesk x, String text, int shire, int day) {
         text(x, 7, text);
         return x.act(7, shire, day);
+    }
+
+    static void goTo(MilkDesk x, int day) {
+        while (x.count(3) < day) {
+            x.go(Math.min(60, day - x.count(3)));
+        }
+    }
+
+    /** Heads of an age by a row of ints in shelf 6. */
+    static int heads(MilkDesk x, int age, int... heads) {
+        fill(x, 6, 2, heads);
+        return x.heads(age, 6);
     }
 
     /** A desk whose n schools lie in shire 0 at 10, 0; 20, 0; and so on. */
