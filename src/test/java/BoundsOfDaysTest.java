@@ -16,6 +16,7 @@ public final class BoundsOfDaysTest {
     public static void main(String[] args) {
         hot();
         byNumbers();
+        notYetCome();
         order();
         come();
         unmet();
@@ -90,6 +91,24 @@ public final class BoundsOfDaysTest {
             due.is("on no SCHOOL DAY", x.of(k, COME), sums[k]);
             due.is("on no SCHOOL DAY", x.of(k, UNMET), k < 11 ? 0 : 25);
         }
+    }
+
+    private static void notYetCome() {
+        due.sentence("A DAY goes by: on a SCHOOL DAY, SCHOOLS by numbers:");
+        MilkDesk x = Due.withSchools(1);
+        Due.dairy(x, 100, 9999, 100);
+        Due.heads(x, 0, 10, 20, 30);
+        x.go(7);
+        x.month(0, 0, 50);
+        x.go(1);
+        due.is("BOTTLES, of which 5 BURST", x.bottles(0), 95);
+        due.is("no SCHOOL of one that hasn't come", x.of(1, ORDER), -1);
+        x.school(0, 0);
+        due.is("it has no sums from ahead of its coming", x.of(1, ORDER), 0);
+        due.is("all BURST", x.count(7), 5);
+        due.is("its ORDER", x.order(1), 20);
+        x.go(1);
+        due.is("it COMES in its turn", x.of(1, COME), 20);
     }
 
     private static void order() {
@@ -323,6 +342,11 @@ public final class BoundsOfDaysTest {
         x.set(0, 1, 0);
         x.go(1);
         due.is("nothing is GONE", x.of(0, OWED), 7);
+        MilkDesk y = monday(100, 0);
+        Due.act(y, "o:1=1", -1, 7);
+        y.set(0, 1, 1);
+        y.go(1);
+        due.is("a single one is GONE", y.of(0, OWED), 1);
     }
 
     private static void paid() {

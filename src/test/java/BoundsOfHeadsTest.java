@@ -89,6 +89,12 @@ public final class BoundsOfHeadsTest {
             }
             due.is("all ROWS are told", x.count(8), 16);
         }
+        MilkDesk z = Due.withSchools(1);
+        Due.heads(z, 0, 50);
+        Due.heads(z, 2, 60);
+        z.row(0, 0, 0);
+        z.heads(1, 0);
+        due.is("0 without one of its own AGE, where others are ahead", z.head(0, 1, 7, 0), 0);
         MilkDesk y = Due.withSchools(1);
         Due.heads(y, 0, 50);
         y.go(4);

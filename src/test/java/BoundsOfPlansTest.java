@@ -12,6 +12,9 @@ public final class BoundsOfPlansTest {
         takenAway();
         likes();
         beside();
+        inMind();
+        onAFullDesk();
+        notYetCome();
         roundCalls();
         judgeCalls();
         boughtCalls();
@@ -144,6 +147,22 @@ public final class BoundsOfPlansTest {
         due.is("2 is reached too late ahead of its coming twice", x.judge(0, 0, 0), 0);
         Due.bytes(x, 0, 1, 1, 2);
         due.is("1 comes twice ahead of 2", x.judge(0, 0, 0), 1);
+        MilkDesk z = new MilkDesk();
+        z.school(0, 10);
+        z.school(0, 1015);
+        z.school(0, 1015);
+        z.dairy(0, 0, 1);
+        Due.bytes(z, 0, 0, 1, 2);
+        z.set(0, 2, 10);
+        z.set(1, 2, 25);
+        z.set(2, 2, 25);
+        due.is("reached by both x and y", z.judge(0, 0, 0), -4);
+        z.set(2, 2, 24);
+        due.is("the last at one PLACE with the one ahead", z.judge(0, 0, 0), 2);
+        z.set(1, 2, 24);
+        due.is("the one ahead", z.judge(0, 0, 0), 1);
+        z.set(0, 2, 9);
+        due.is("the first", z.judge(0, 0, 0), 0);
         MilkDesk y = Due.withSchools(12);
         y.dairy(0, 0, 1);
         y.row(0, 0, 80);
@@ -407,6 +426,121 @@ public final class BoundsOfPlansTest {
         due.is("the greatest sum", y.beside(0, 600, 0), 36 * 281 * 600);
         Due.bytes(y, 0, 0, 0, 0, 0, 0, 0, 1, 1, 1, 1, 1, 1);
         due.is("the least sum is no refusal", y.beside(0, 600, 0), -36 * 281 * 600);
+    }
+
+    /** What is run through in mind knows all that there is. */
+    private static void inMind() {
+        due.sentence("(In mind; nothing changes.)");
+        MilkDesk x = new MilkDesk();
+        x.school(0, 3040);
+        Due.dairy(x, 0, 9999, 0);
+        Due.heads(x, 0, 10);
+        due.is("HEADS don't count yet", x.bought(0, 7), 0);
+        due.is("HEADS count", x.bought(0, 8), 10);
+        Due.heads(x, 0, 30);
+        x.go(4);
+        Due.heads(x, 0, 20);
+        due.is("others count later", x.bought(0, 10), 30);
+        due.is("others count that are fewer", x.bought(0, 11), 30);
+        x.set(0, 1, 100);
+        due.is("five DAYS of 30 and one of 20", x.bought(0, 11), 170);
+        Due.act(x, "e:x=30&y=40", -1, 4);
+        due.is("an ACT by the PLACE", x.bought(0, 4), 30);
+        Due.act(x, "e:x=40|y=30", -1, 4);
+        due.is("another one", x.bought(0, 4), 0);
+        x.strike(1, 8);
+        due.is("the one STRUCK from Tuesday on", x.bought(0, 5), 30);
+        Due.act(x, "e:1=2", -1, 9);
+        due.is("one that begins on Wednesday", x.bought(0, 20), 30);
+        due.sentence("would be less than without that. (In mind.)");
+        MilkDesk y = new MilkDesk();
+        y.school(0, 3040);
+        Due.dairy(y, 9999, 9999, 0);
+        Due.heads(y, 0, 10);
+        due.is("HEADS don't count yet", y.away(0, 7, 0), 0);
+        due.is("HEADS count", y.away(0, 8, 0), 10);
+        Due.act(y, "e:x=30&y=40", -1, 0);
+        due.is("an ACT by the PLACE", y.away(0, 8, 0), 10);
+        y.strike(0, 8);
+        y.month(0, 2, 9);
+        due.is("COWS", y.away(0, 8, 0), 9);
+        y.month(0, 0, 50);
+        due.is("COLD", y.away(0, 8, 0), 5);
+        y.set(0, 1, 50);
+        due.is("LOSES", y.away(0, 8, 2), 2);
+        y.set(0, 0, 50);
+        // A THIRD of 3 and an OVER of 2, each a penny at a PRICE of 0.
+        due.is("LEAVES", y.away(0, 8, 1), 2);
+        y.month(0, 1, 20);
+        Due.act(y, "r:1=1", -1, 7);
+        due.is("HEAT", y.away(0, 8, 0), 0);
+    }
+
+    private static void onAFullDesk() {
+        due.sentence("SCHOOLS 0 .. 11 as they come");
+        MilkDesk x = Due.withSchools(12);
+        for (int k = 0; k < 5; k++) {
+            Due.dairy(x, 100, 9999, 104 - k);
+        }
+        Due.heads(x, 0, 10, 10, 10, 10, 10, 10, 10, 10, 10, 10, 10, 10, 10, 10, 10, 10);
+        x.go(7);
+        x.set(11, 1, 100);
+        for (int k = 0; k < 5; k++) {
+            due.is("BOUGHT for " + k, x.bought(k, 2), k == 4 ? 30 : 0);
+        }
+        due.is("PARTED", x.parted(9999, 7, 228, 0), 120);
+        due.is("TAKEN AWAY", x.away(0, 1, 0), 100);
+        x.row(0, 0, 80);
+        for (int k = 0; k < 80; k++) {
+            x.put(0, k, k % 2);
+        }
+        due.is("PAIRS", x.beside(0, 0, 1), 36);
+        due.is("JUDGED", x.judge(4, 0, 0), 2);
+        Due.bytes(x, 0, 5, 6, 7, 8, 9, 10, 11);
+        // Out by 60, 70, 80, 90, back by 20, 10, 0.
+        int[] stops = {5, 6, 7, 8, 11, 10, 9};
+        for (int i = 0; i < 7; i++) {
+            due.is("THE ROUND, i " + i, x.round(4, 0, 0, i), stops[i]);
+        }
+        x.go(1);
+        due.is("COME to the last but one", x.of(9, 1), 10);
+        due.is("none to the last", x.of(11, 1), 0);
+        due.is("all GONE", x.count(6), 0);
+    }
+
+    private static void notYetCome() {
+        due.sentence("SCHOOLS 0 .. 11 as they come");
+        MilkDesk x = Due.withSchools(1);
+        Due.dairy(x, 100, 9999, 104);
+        Due.heads(x, 0, 10, 20, 30);
+        x.go(7);
+        due.is("PARTED", x.parted(9999, 7, 228, 0), 10);
+        due.is("BOUGHT", x.bought(0, 1), 0);
+        due.is("TAKEN AWAY", x.away(0, 1, 0), 10);
+        x.row(0, 0, 80);
+        for (int k = 0; k < 80; k++) {
+            x.put(0, k, k % 2);
+        }
+        due.is("PAIRS", x.beside(0, 600, 1), 0);
+        due.is("JUDGED", x.judge(0, 0, 0), 1);
+        Due.bytes(x, 1, 0, 1);
+        due.is("THE ROUND", x.round(0, 0, 1, -1), -13);
+        x.school(0, 0);
+        due.is("PARTED with another", x.parted(9999, 7, 228, 0), 30);
+        due.is("PAIRS with another", x.beside(0, 600, 1), 1);
+        due.is("JUDGED with another", x.judge(0, 0, 0), 2);
+        due.is("THE ROUND with another", x.round(0, 0, 1, -1), 20);
+        due.is("PAIRS when all are 1", all(x, 1), 0);
+        due.is("PAIRS when all are 0", all(x, 0), 0);
+    }
+
+    /** How many PAIRS there are if all places of a row of 80 bear this mark. */
+    private static int all(MilkDesk x, int mark) {
+        x.row(0, 0, 80);
+        for (int k = 0; k < 80; k++) {
+            x.put(0, k, mark);
+        }
+        return x.beside(0, 600, 1);
     }
 
     private static void roundCalls() {
