@@ -49,9 +49,9 @@ public final class RandomRunsTest {
         return random.nextInt(n + 1);
     }
 
-    /** Mostly a number of the range, now and then one just beside it, or a wild one. */
+    /** Mostly a number of the range, now and then one just beside it, or a wild one: in every third run often. */
     private int in(int least, int most) {
-        int kind = random.nextInt(60);
+        int kind = random.nextInt(run % 3 == 0 ? 16 : 60);
         if (kind == 0) {
             return least - 1;
         }
@@ -59,7 +59,8 @@ public final class RandomRunsTest {
             return most + 1;
         }
         if (kind == 2) {
-            return random.nextInt();
+            int wild = random.nextInt();
+            return wild % 3 == 0 ? Integer.MIN_VALUE : wild % 3 == 1 ? Integer.MAX_VALUE : wild;
         }
         if (kind < 6) {
             return least;
